@@ -26,6 +26,27 @@ final class Check {
         }
     }
 
+    /**
+     * The test of one sentence of the document; the sentence is named if its test fails.
+     * A call that throws breaks the sentence as a wrong answer does.
+     */
+    static void sentence(String where, String words, Runnable test) {
+        int wrongBefore = wrong;
+        int madeBefore = made;
+        try {
+            test.run();
+        } catch (RuntimeException thrown) {
+            wrong++;
+            System.out.println("thrown: " + thrown);
+        }
+        if (made == madeBefore) {
+            wrong++;
+        }
+        if (wrong != wrongBefore) {
+            System.out.println("BROKEN " + where + ": " + words);
+        }
+    }
+
     static void end() {
         System.out.println(made + " checks, " + wrong + " wrong");
         if (wrong != 0 || made == 0) {

@@ -154,6 +154,10 @@ final class Model {
         graphs[1] = carried(graphs[0], new int[] {0, 1, 2, 3, 4, 5});
     }
 
+    int codeUnder(int graph, int[] renumbering) {
+        return codeOf(carried(graphs[graph], renumbering));
+    }
+
     int code(int graph) {
         return badGraph(graph) ? -1 : codeOf(graphs[graph]);
     }
